@@ -199,12 +199,12 @@ public final class CoinLadders {
             case 0: return Game.ladderOf(chosen);
             case 1: return Game.heightOf(chosen);
             case 2: return Game.sizeOf(chosen);
-            default: return game.sumBehind(chosen);
+            default: return game.sumNow() ^ game.changeOfValue(chosen);
         }
     }
 
     public int best() {
-        return game.firstWinning(game.listChoices());
+        return game.firstWinning(game.listChoices(), game.sumNow());
     }
 
     public int whyNotStep(int ladder, int height, int size) {
@@ -274,7 +274,8 @@ public final class CoinLadders {
         history.keep(game.now);
         int made = 0;
         while (made < acts && !game.isOver()) {
-            game.actByItself();
+            int count = game.listChoices();
+            game.makeBestOrPass(count, game.firstWinning(count, game.sumNow()));
             made++;
         }
         return made;
@@ -553,29 +554,21 @@ public final class CoinLadders {
             if (at >= limit) {
                 token = END;
             } else if (isLetter(bytes[at])) {
-                takeWord();
+                while (at < limit && isLetter(bytes[at])) {
+                    at++;
+                }
+                token = at - start <= LONGEST_WORD ? WORD : ILLEGAL;
             } else if (isDigit(bytes[at])) {
-                takeNumber();
+                number = 0;
+                while (at < limit && isDigit(bytes[at])) {
+                    number = 10 * number + bytes[at] - '0';
+                    at++;
+                }
+                token = at - start <= LONGEST_NUMBER ? NUMBER : ILLEGAL;
             } else {
                 token = bytes[at] == ';' ? SEMICOLON : ILLEGAL;
                 at++;
             }
-        }
-
-        private void takeWord() {
-            while (at < limit && isLetter(bytes[at])) {
-                at++;
-            }
-            token = at - start <= LONGEST_WORD ? WORD : ILLEGAL;
-        }
-
-        private void takeNumber() {
-            number = 0;
-            while (at < limit && isDigit(bytes[at])) {
-                number = 10 * number + bytes[at] - '0';
-                at++;
-            }
-            token = at - start <= LONGEST_NUMBER ? NUMBER : ILLEGAL;
         }
 
         private static boolean isWhite(int b) {
@@ -605,6 +598,12 @@ public final class CoinLadders {
         int bannedLadder;
         int bannedHeight;
         int bannedSize;
+
+        State() {
+            Arrays.fill(claimers, NONE);
+            Arrays.fill(tokens, 1);
+            ban(NONE, NONE, NONE);
+        }
 
         void begin(Setup setup) {
             System.arraycopy(setup.coins, 0, coins, 0, LADDERS);
@@ -710,7 +709,7 @@ public final class CoinLadders {
             int rank = 0;
             int left = MOST_COINS;
             for (int height = HIGHEST; height > 0 && left > 0; height--) {
-                if (hasBit(mask, height)) {
+                if ((mask >> height & 1) != 0) {
                     left--;
                     rank += SETS_BELOW[left * (HIGHEST + 1) + height];
                 }
@@ -844,7 +843,6 @@ public final class CoinLadders {
             for (int ladder = 0; ladder < LADDERS; ladder++) {
                 values[ladder] = new LadderValues();
             }
-            now.begin(setup);
         }
 
         void begin(Setup newSetup) {
@@ -892,7 +890,7 @@ public final class CoinLadders {
         int sumNow() {
             int sum = 0;
             for (int ladder = 0; ladder < setup.count; ladder++) {
-                sum ^= valueNow(ladder);
+                sum ^= valueWith(ladder, now.coins[ladder]);
             }
             return sum;
         }
@@ -941,20 +939,19 @@ public final class CoinLadders {
             return chosen & 15;
         }
 
-        int sumBehind(int chosen) {
-            return sumNow() ^ changeOfValue(chosen);
-        }
-
-        private int changeOfValue(int chosen) {
+        /** The exclusive or of the values of the step's ladder before it and behind it. */
+        int changeOfValue(int chosen) {
             int ladder = ladderOf(chosen);
             int height = heightOf(chosen);
-            int coins = moved(now.coins[ladder], height, height - sizeOf(chosen));
-            return valueNow(ladder) ^ valueWith(ladder, coins);
+            int coins = now.coins[ladder];
+            int coinsBehind = moved(coins, height, height - sizeOf(chosen));
+            LadderValues own = valuesOf(ladder);
+            return own.valueAt(positions, Positions.rankOf(coins))
+                    ^ own.valueAt(positions, Positions.rankOf(coinsBehind));
         }
 
         /** The number of the first listed step behind which the sum is 0; NONE if there is none. */
-        int firstWinning(int count) {
-            int sum = sumNow();
+        int firstWinning(int count, int sum) {
             for (int k = 0; k < count && k < choices.length; k++) {
                 if (changeOfValue(choices[k]) == sum) {
                     return k;
@@ -1057,7 +1054,9 @@ public final class CoinLadders {
             int ladder = now.pastAct(0, ACT_LADDER);
             int height = now.pastAct(0, ACT_HEIGHT);
             int size = now.pastAct(0, ACT_SIZE);
-            now.coins[ladder] = moved(now.coins[ladder], height - size, height);
+            if (setup.hasLadder(ladder)) {
+                now.coins[ladder] = moved(now.coins[ladder], height - size, height);
+            }
             now.spendToken(BACK_TOKENS);
             now.finishAct(BACK, ladder, height, size);
             now.ban(ladder, height, size);
@@ -1068,14 +1067,13 @@ public final class CoinLadders {
             now.finishAct(PASS, NONE, NONE, NONE);
         }
 
-        /** Makes the best step, the first one without a best, or passes. */
-        void actByItself() {
-            int count = listChoices();
+        /** Makes the listed step with the number best, the first one if that is NONE, or passes if none is listed. */
+        void makeBestOrPass(int count, int best) {
             if (count == 0) {
                 makePass();
                 return;
             }
-            int chosen = choices[Math.max(firstWinning(count), 0)];
+            int chosen = choices[Math.max(best, 0)];
             makeStep(ladderOf(chosen), heightOf(chosen), sizeOf(chosen));
         }
     }
@@ -1099,7 +1097,9 @@ public final class CoinLadders {
 
         void forgetAll() {
             changes = 0;
-            Arrays.fill(isSaved, false);
+            for (int slot = 0; slot < SLOTS; slot++) {
+                isSaved[slot] = false;
+            }
         }
 
         /** Keeps a state before a change; the oldest of ten gives way. */

@@ -70,6 +70,7 @@ public final class LooksTest {
         due.is("claimer then", 1, () -> x.ladder(1, 4));
         due.is("claim then", 3, () -> x.ladder(1, 5));
         due.is("the other is free", -1, () -> x.ladder(0, 4));
+        due.is("no claim there", 0, () -> x.ladder(0, 5));
         x.claim(0);
         due.is("two left", 2, () -> x.ladder(1, 5));
         due.is("three left", 3, () -> x.ladder(0, 5));

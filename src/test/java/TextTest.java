@@ -15,6 +15,7 @@ public final class TextTest {
         tooMany();
         whatAnErrorLeaves();
         whatASuccessClears();
+        whatTheTextBeforeLeaves();
         due.end();
     }
 
@@ -135,6 +136,12 @@ public final class TextTest {
         bad(";", 0, 1);
         bad("5", 0, 1);
         bad("ladders 5 5;", 0, 1);
+        bad("ladderz 5 5;", 0, 1);
+        bad("aladder 5 5;", 0, 1);
+        bad("madder 5 5;", 0, 1);
+        bad("laddeq 5 5;", 0, 1);
+        bad("dock 0 1;", 0, 1);
+        bad("steps", 0, 1);
         bad("steps 1;", 0, 1);
         bad("ladder;", 6, 1);
         bad("ladder 5;", 8, 1);
@@ -265,6 +272,31 @@ public final class TextTest {
         due.is("value with other sizes", 0, () -> x.ladder(0, 3));
         due.is("an empty text is a game, too", 0, () -> x.parse(0));
         due.is("no ladders", 0, () -> x.size(0));
+    }
+
+    private static void whatTheTextBeforeLeaves() {
+        CoinLadders x = Due.game("first 1; ladder 9 9; lock 0 3; ladder 9 9; tokens 3 3 3;");
+        x.claim(1);
+        x.step(0, 9, 1);
+        x.back();
+        due.is("an error behind a lock", error(19, 1), () -> Due.parse(x, "ladder 5 5;lock 0 4"));
+        due.is("an error behind first", error(9, 1), () -> Due.parse(x, "first 1; ;"));
+        due.is("an error behind tokens", error(14, 1), () -> Due.parse(x, "tokens 5 5 5; ;"));
+        due.is("the locks stay", 8, () -> x.set(0, 1));
+        due.is("the ban stays", 9, () -> x.whyNotStep(0, 9, 1));
+        due.is("a new game", 2, () -> Due.parse(x, "ladder 9 9; ladder 9 9;"));
+        due.is("no locks", 0, () -> x.set(0, 1));
+        due.is("first is 0", 0, () -> x.size(1));
+        due.is("tokens are 1", 1, () -> x.player(0, 0));
+        due.is("no ban", 0, () -> x.whyNotStep(0, 9, 1));
+        due.is("no claim", 0, () -> x.ladder(1, 5));
+        due.is("no claimer", -1, () -> x.ladder(1, 4));
+        due.is("all statements again", 1, () -> Due.parse(x, "first 1; ladder 9 9; lock 0 3; lock 0 4; tokens 2 2 2;"));
+        due.is("the locks", 24, () -> x.set(0, 1));
+        due.fails("the second ladder is gone", IndexOutOfBoundsException.class, () -> x.ladder(1, 0));
+        due.is("it can't be locked", error(16, 2), () -> Due.parse(x, "ladder 9 9;lock 1 3;"));
+        due.is("the sum is that of one ladder", x.ladder(0, 3), () -> x.sum());
+        due.is("the steps are those of one ladder", x.stepsOn(0), () -> x.allowed());
     }
 
     private static int error(int offset, int kind) {

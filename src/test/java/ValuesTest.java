@@ -13,6 +13,8 @@ public final class ValuesTest {
         positions();
         meanValue();
         isRight();
+        sixLadders();
+        longSteps();
         noSuchLadder();
         due.end();
     }
@@ -156,6 +158,30 @@ public final class ValuesTest {
             x.play(1);
             due.is("behind an act", 1, () -> x.isRight() ? 1 : 0);
         }
+    }
+
+    private static void sixLadders() {
+        CoinLadders x = Due.game("ladder 1 1;ladder 2 2;ladder 3 3;ladder 4 4;ladder 5 5;ladder 6 6;");
+        due.is("1 ^ 2 ^ 3 ^ 0 ^ 1 ^ 2", 3, () -> x.sum());
+        due.is("all are right", 1, () -> x.isRight() ? 1 : 0);
+        due.is("1 + 2 + 3 + 3 + 3 + 3", 15, () -> x.allowed());
+        due.is("not over", 0, () -> x.size(3));
+        due.is("the last ladder", 5, () -> x.choice(14, 0));
+        due.is("all acts", 1, () -> x.play(60) > 5 ? 1 : 0);
+        due.is("over", 1, () -> x.size(3));
+        due.is("no sum", 0, () -> x.sum());
+    }
+
+    private static void longSteps() {
+        CoinLadders x = Due.game("ladder 12 12 steps 12; ladder 12 11 12 steps 11 12;");
+        due.is("one step of 12", 1, () -> x.stepsOn(0));
+        // 12 to 1 and to 0; 11 to 0
+        due.is("three long steps", 3, () -> x.stepsOn(1));
+        due.is("the value of 12", 1, () -> x.ladder(0, 3));
+        due.is("not over", 0, () -> x.size(3));
+        due.is("the longest", 1, () -> x.longest(0));
+        // {12,11}, {11,1}, {11}, {12}, {1}, {}
+        due.is("positions", 6, () -> x.positions(1));
     }
 
     private static void noSuchLadder() {
