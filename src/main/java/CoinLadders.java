@@ -714,7 +714,7 @@ public final class CoinLadders {
                     rank += SETS_BELOW[left * (HIGHEST + 1) + height];
                 }
             }
-            return rank;
+            return rank < POSITIONS ? rank : 0;
         }
 
         /** Lists the ranks of the positions one step behind, and answers how many there are. */

@@ -4,11 +4,19 @@ import java.util.function.LongSupplier;
 /** Compares answers with those that are due, and ends a test. */
 final class Due {
     private final String test;
+    private String sentence = "";
+    private int sentences;
     private int compared;
     private int wrong;
 
     Due(String test) {
         this.test = test;
+    }
+
+    /** The words of the document that the comparisons which follow hold it to. */
+    void says(String words) {
+        sentence = words;
+        sentences++;
     }
 
     void is(String call, long want, LongSupplier answer) {
@@ -47,6 +55,14 @@ final class Due {
         }
     }
 
+    /** Besides, a call that throws must leave all as it was; it costs two looks. */
+    void failsAndLeaves(String call, Class<? extends RuntimeException> want, CoinLadders x,
+            LongSupplier answer) {
+        String before = Look.at(x);
+        fails(call, want, answer);
+        isTrue(call + " changes nothing, which", Look.at(x).equals(before));
+    }
+
     void isTrue(String what, boolean holds) {
         compared++;
         if (!holds) {
@@ -56,11 +72,12 @@ final class Due {
 
     private void tell(String fault) {
         wrong++;
-        System.out.println(test + ": " + fault);
+        System.out.println(test + ": " + fault + (sentence.isEmpty() ? "" : " (\"" + sentence + "\")"));
     }
 
     void end() {
-        System.out.println(test + ": " + compared + " compared, " + wrong + " wrong");
+        String held = sentences == 0 ? "" : sentences + " sentences, ";
+        System.out.println(test + ": " + held + compared + " compared, " + wrong + " wrong");
         if (wrong != 0) {
             System.exit(1);
         }

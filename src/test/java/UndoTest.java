@@ -18,35 +18,6 @@ public final class UndoTest {
         due.end();
     }
 
-    /** All that the changes can change, as a text; some 150 calls. */
-    private static String look(CoinLadders x) {
-        StringBuilder all = new StringBuilder();
-        for (int what = 0; what < 5; what++) {
-            all.append(x.size(what)).append(' ');
-        }
-        for (int ladder = 0; ladder < x.size(0); ladder++) {
-            for (int what = 2; what < 6; what++) {
-                all.append(x.ladder(ladder, what)).append(' ');
-            }
-            all.append(x.set(ladder, 0)).append(' ').append(x.set(ladder, 1)).append(' ');
-        }
-        for (int i = 0; i < 12; i++) {
-            all.append(x.player(i / 6, i % 6)).append(' ');
-        }
-        for (int k = 0; k < 16; k++) {
-            for (int what = 0; what < 5; what++) {
-                all.append(x.act(k, what)).append(' ');
-            }
-        }
-        int allowed = x.allowed();
-        for (int k = 0; k < allowed; k++) {
-            for (int what = 0; what < 3; what++) {
-                all.append(x.choice(k, what)).append(' ');
-            }
-        }
-        return all.toString();
-    }
-
     private static void act(CoinLadders x, int number) {
         switch (number % 6) {
             case 0: x.step(x.choice(0, 0), x.choice(0, 1), x.choice(0, 2)); break;
@@ -67,7 +38,7 @@ public final class UndoTest {
     }
 
     private static String lookBehind(int acts) {
-        return look(behind(acts));
+        return Look.atState(behind(acts));
     }
 
     private static void undoOfEachAct() {
@@ -77,21 +48,21 @@ public final class UndoTest {
             CoinLadders x = behind(i + 1);
             int kept = Math.min(i, 9);
             due.is("changes behind act " + i, kept + 1, () -> x.size(5));
-            due.isTrue("act " + i + " changes the look", !look(x).equals(lookBehind(i)));
+            due.isTrue("act " + i + " changes the look", !Look.atState(x).equals(lookBehind(i)));
             due.is("undo of act " + i, kept, () -> x.undo());
-            due.isTrue("the look before act " + i, look(x).equals(lookBehind(i)));
+            due.isTrue("the look before act " + i, Look.atState(x).equals(lookBehind(i)));
             act(x, i);
-            due.isTrue("the look behind act " + i, look(x).equals(lookBehind(i + 1)));
+            due.isTrue("the look behind act " + i, Look.atState(x).equals(lookBehind(i + 1)));
         }
     }
 
     private static void undoOfAPass() {
         CoinLadders x = Due.game("ladder 1 1;");
         x.claim(0);
-        String before = look(x);
+        String before = Look.atState(x);
         x.pass();
         due.is("one is left", 1, () -> x.undo());
-        due.isTrue("the look before a pass", look(x).equals(before));
+        due.isTrue("the look before a pass", Look.atState(x).equals(before));
     }
 
     private static void undoOfMany() {
@@ -101,14 +72,14 @@ public final class UndoTest {
                 int still = left - 2;
                 due.is("changes left", still, () -> x.undo());
             }
-            due.isTrue("undone to act " + i, look(x).equals(lookBehind(i)));
+            due.isTrue("undone to act " + i, Look.atState(x).equals(lookBehind(i)));
         }
         CoinLadders y = behind(3);
         y.undo();
         y.undo();
         y.undo();
         due.is("none left", -1, () -> y.undo());
-        due.isTrue("the first look stays", look(y).equals(lookBehind(0)));
+        due.isTrue("the first look stays", Look.atState(y).equals(lookBehind(0)));
         act(y, 0);
         due.is("a change behind undo", 1, () -> y.size(5));
         due.is("it can be undone", 0, () -> y.undo());
@@ -160,11 +131,11 @@ public final class UndoTest {
             act(x, i);
         }
         due.is("restore 0", 1, () -> x.restoreSnapshot(0) ? 1 : 0);
-        due.isTrue("the first look", look(x).equals(lookBehind(0)));
+        due.isTrue("the first look", Look.atState(x).equals(lookBehind(0)));
         due.is("no history", 0, () -> x.size(5));
         due.is("no undo", -1, () -> x.undo());
         due.is("restore 1", 1, () -> x.restoreSnapshot(1) ? 1 : 0);
-        due.isTrue("the second look, with its ban", look(x).equals(lookBehind(2)));
+        due.isTrue("the second look, with its ban", Look.atState(x).equals(lookBehind(2)));
     }
 
     private static void inPlaceOfAnOlderOne() {
@@ -175,7 +146,7 @@ public final class UndoTest {
         act(x, 3);
         act(x, 4);
         due.is("restore", 1, () -> x.restoreSnapshot(1) ? 1 : 0);
-        due.isTrue("the newer look", look(x).equals(lookBehind(3)));
+        due.isTrue("the newer look", Look.atState(x).equals(lookBehind(3)));
     }
 
     private static void snapshotsAreCopies() {
@@ -186,7 +157,7 @@ public final class UndoTest {
                 act(x, i);
             }
             due.is("the snapshot has stayed", 1, () -> x.restoreSnapshot(0) ? 1 : 0);
-            due.isTrue("acts do not reach into a slot", look(x).equals(lookBehind(5)));
+            due.isTrue("acts do not reach into a slot", Look.atState(x).equals(lookBehind(5)));
         }
     }
 
@@ -200,7 +171,7 @@ public final class UndoTest {
             due.is("saveSnapshot(" + slot + ")", 0, () -> x.saveSnapshot(slot) ? 1 : 0);
             due.is("restoreSnapshot(" + slot + ")", 0, () -> x.restoreSnapshot(slot) ? 1 : 0);
         }
-        due.isTrue("nothing changed", look(x).equals(lookBehind(2)));
+        due.isTrue("nothing changed", Look.atState(x).equals(lookBehind(2)));
         due.is("the history stays", 2, () -> x.size(5));
         CoinLadders y = behind(1);
         due.is("empty slot", 0, () -> y.restoreSnapshot(1) ? 1 : 0);
@@ -211,9 +182,9 @@ public final class UndoTest {
         CoinLadders x = behind(1);
         x.saveSnapshot(0);
         x.undo();
-        due.isTrue("undo does not touch slots", x.restoreSnapshot(0) && look(x).equals(lookBehind(1)));
+        due.isTrue("undo does not touch slots", x.restoreSnapshot(0) && Look.atState(x).equals(lookBehind(1)));
         act(x, 1);
         due.is("one change behind restoring", 0, () -> x.undo());
-        due.isTrue("the restored look", look(x).equals(lookBehind(1)));
+        due.isTrue("the restored look", Look.atState(x).equals(lookBehind(1)));
     }
 }
